@@ -28,7 +28,8 @@ public final class VolumeCommit {
     private static final int NOBODY = -1;
     private static final int ENDED_IN_DOUBT = -2;
 
-    // Indexed by code. A value of NONE in fresh means that the key is to be removed.
+    // Indexed by code. In fresh, NONE means that the key is to be removed; what it has for
+    // a key that nobody holds is never looked at.
     private final int[] contents = new int[CODES];
     private final int[] holder = new int[CODES];
     private final int[] fresh = new int[CODES];
@@ -41,7 +42,6 @@ public final class VolumeCommit {
         for (int code = 0; code < CODES; code++) {
             contents[code] = NONE;
             holder[code] = NOBODY;
-            fresh[code] = NONE;
         }
         for (int party = 0; party < PARTIES; party++) {
             up[party] = true;
@@ -113,7 +113,9 @@ public final class VolumeCommit {
             return commitLosingUnreadyStore(t, store);
         }
         if (kind == 5) {
-            return commitLosingLeaderAndStore(t, store);
+            commitLosingLeader(t, true);
+            loseStore(store);
+            return DOUBT;
         }
         return commitInPeace(t);
     }
@@ -325,8 +327,10 @@ public final class VolumeCommit {
     }
 
     private int commitInPeace(int t) {
-        for (int store = 0; store < STORES; store++) {
-            doIn(t, store);
+        for (int code = 0; code < CODES; code++) {
+            if (holder[code] == t) {
+                contents[code] = fresh[code];
+            }
         }
         end(t);
         return 1;
@@ -336,7 +340,7 @@ public final class VolumeCommit {
         for (int store = 0; store < STORES; store++) {
             leaveInDoubt(t, store, toBeDone);
         }
-        end(t);
+        // This ends t too, which holds nothing any more.
         loseLeader();
         return DOUBT;
     }
@@ -354,36 +358,11 @@ public final class VolumeCommit {
         return 0;
     }
 
-    private int commitLosingLeaderAndStore(int t, int store) {
-        commitLosingLeader(t, true);
-        if (up[store]) {
-            loseStore(store);
-        }
-        return DOUBT;
-    }
-
-    private void doIn(int who, int store) {
-        for (int key = 0; key < KEYS; key++) {
-            int code = KEYS * store + key;
-            if (holder[code] == who) {
-                contents[code] = fresh[code];
-                holder[code] = NOBODY;
-            }
-        }
-    }
-
-    private void dropIn(int who, int store) {
-        for (int key = 0; key < KEYS; key++) {
-            int code = KEYS * store + key;
-            if (holder[code] == who) {
-                holder[code] = NOBODY;
-            }
-        }
-    }
-
     private void dropAll(int t) {
-        for (int store = 0; store < STORES; store++) {
-            dropIn(t, store);
+        for (int code = 0; code < CODES; code++) {
+            if (holder[code] == t) {
+                holder[code] = NOBODY;
+            }
         }
     }
 
@@ -411,10 +390,16 @@ public final class VolumeCommit {
         if (!up[store] || !up[LEADER]) {
             return;
         }
-        if (doubtIsToBeDone[store]) {
-            doIn(ENDED_IN_DOUBT, store);
-        } else {
-            dropIn(ENDED_IN_DOUBT, store);
+        for (int key = 0; key < KEYS; key++) {
+            int code = KEYS * store + key;
+            if (holder[code] != ENDED_IN_DOUBT) {
+                continue;
+            }
+            // No one may write a doubtful key, so fresh still has the ended one's value.
+            if (doubtIsToBeDone[store]) {
+                contents[code] = fresh[code];
+            }
+            holder[code] = NOBODY;
         }
     }
 
