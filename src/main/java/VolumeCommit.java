@@ -62,6 +62,7 @@ public final class VolumeCommit {
     }
 
     public int put(int t, int code, int value) {
+        // The tests that the document names before this one answer BAD too.
         if (value < 0 || value > GREATEST_VALUE) {
             return BAD;
         }
